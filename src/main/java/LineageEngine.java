@@ -96,7 +96,8 @@ public final class LineageEngine {
             return 0;
         }
         int first = firstPlace(d);
-        return sumOfPlaces(first, first + sizes[d]);
+        int end = endPlace(d);
+        return sumOfPlaces(first, end);
     }
 
     public int keyOf(int d, int k) {
@@ -121,7 +122,7 @@ public final class LineageEngine {
             return 0;
         }
         int first = firstPlace(d);
-        int end = first + sizes[d];
+        int end = endPlace(d);
         int sum = 0;
         for (int i = first; i < end; i++) {
             if (keys[i] == key) {
@@ -170,6 +171,10 @@ public final class LineageEngine {
 
     private static int firstPlace(int d) {
         return d * MOST_PAIRS;
+    }
+
+    private int endPlace(int d) {
+        return d * MOST_PAIRS + sizes[d];
     }
 
     private static boolean takesTwoSets(int kind) {
@@ -254,7 +259,7 @@ public final class LineageEngine {
             return;
         }
         int first = firstPlace(sets);
-        int place = first + sizes[sets];
+        int place = endPlace(sets);
         while (place > first && isBefore(key, value, place - 1)) {
             keys[place] = keys[place - 1];
             values[place] = values[place - 1];
@@ -278,7 +283,7 @@ public final class LineageEngine {
 
     private void addScaled(int x, int a, int b) {
         int first = firstPlace(x);
-        int end = first + sizes[x];
+        int end = endPlace(x);
         for (int i = first; i < end; i++) {
             add(keys[i], values[i] * a + b);
         }
@@ -286,7 +291,7 @@ public final class LineageEngine {
 
     private void addAtLeast(int x, int least) {
         int first = firstPlace(x);
-        int end = first + sizes[x];
+        int end = endPlace(x);
         for (int i = first; i < end; i++) {
             if (values[i] >= least) {
                 add(keys[i], values[i]);
@@ -296,7 +301,7 @@ public final class LineageEngine {
 
     private void addRekeyed(int x, int a, int b) {
         int first = firstPlace(x);
-        int end = first + sizes[x];
+        int end = endPlace(x);
         for (int i = first; i < end; i++) {
             add((keys[i] * a + b) & (KEYS - 1), values[i]);
         }
@@ -304,7 +309,7 @@ public final class LineageEngine {
 
     private void addRepeated(int x, int times) {
         int first = firstPlace(x);
-        int end = first + sizes[x];
+        int end = endPlace(x);
         for (int i = first; i < end; i++) {
             for (int time = 0; time < times; time++) {
                 add(keys[i], values[i]);
@@ -314,7 +319,7 @@ public final class LineageEngine {
 
     private void addFolded(int x, int how) {
         int first = firstPlace(x);
-        int end = first + sizes[x];
+        int end = endPlace(x);
         int firstOfKey = first;
         for (int i = first; i < end; i++) {
             boolean lastOfKey = i + 1 == end || keys[i + 1] != keys[i];
@@ -350,9 +355,9 @@ public final class LineageEngine {
 
     private void addJoined(int x, int other) {
         int first = firstPlace(x);
-        int end = first + sizes[x];
+        int end = endPlace(x);
         int otherFirst = firstPlace(other);
-        int otherEnd = otherFirst + sizes[other];
+        int otherEnd = endPlace(other);
         for (int i = first; i < end; i++) {
             for (int j = otherFirst; j < otherEnd; j++) {
                 if (keys[i] == keys[j]) {
@@ -365,7 +370,7 @@ public final class LineageEngine {
     /** The same pairs stand side by side, so a pair is new iff the one before it is another. */
     private void addDistinct(int x) {
         int first = firstPlace(x);
-        int end = first + sizes[x];
+        int end = endPlace(x);
         for (int i = first; i < end; i++) {
             if (i == first || keys[i] != keys[i - 1] || values[i] != values[i - 1]) {
                 add(keys[i], values[i]);
@@ -375,7 +380,7 @@ public final class LineageEngine {
 
     private void addWithout(int x, int other) {
         int first = firstPlace(x);
-        int end = first + sizes[x];
+        int end = endPlace(x);
         for (int i = first; i < end; i++) {
             if (!hasKey(other, keys[i])) {
                 add(keys[i], values[i]);
@@ -385,7 +390,7 @@ public final class LineageEngine {
 
     private boolean hasKey(int d, int key) {
         int first = firstPlace(d);
-        int end = first + sizes[d];
+        int end = endPlace(d);
         for (int i = first; i < end; i++) {
             if (keys[i] == key) {
                 return true;
@@ -396,7 +401,7 @@ public final class LineageEngine {
 
     private void addLast(int x, int most) {
         int first = firstPlace(x);
-        int end = first + sizes[x];
+        int end = endPlace(x);
         for (int i = first; i < end; i++) {
             if (laterByValue(i, first, end) < most) {
                 add(keys[i], values[i]);
@@ -417,7 +422,7 @@ public final class LineageEngine {
 
     private void addSwapped(int x) {
         int first = firstPlace(x);
-        int end = first + sizes[x];
+        int end = endPlace(x);
         for (int i = first; i < end; i++) {
             add(values[i] & (KEYS - 1), keys[i]);
         }

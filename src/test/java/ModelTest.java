@@ -29,15 +29,15 @@ public final class ModelTest {
 
     private record Pair(int key, int value) { }
 
+    // One object for every big data set, since nothing can be asked of it but whether it is big.
+    private static final List<Pair> BIG_SET = new ArrayList<>();
     private static final Comparator<Pair> BY_KEY = Comparator.comparingInt(Pair::key).thenComparingInt(Pair::value);
     private static final Comparator<Pair> BY_VALUE = Comparator.comparingInt(Pair::value).thenComparingInt(Pair::key);
 
     private final int run;
     private final LineageEngine engine = new LineageEngine();
     private final List<Pair> hand = new ArrayList<>();
-    // A big data set stands here as BIG_SET, since nothing but its being big can be asked.
     private final List<List<Pair>> sets = new ArrayList<>();
-    private static final List<Pair> BIG_SET = new ArrayList<>();
     private long state;
 
     private ModelTest(int run) {
@@ -75,7 +75,7 @@ public final class ModelTest {
             due("discard()", engine.discard(), hand.size());
             hand.clear();
         } else {
-            due("drop()", engine.drop(), sets.size() - 1);
+            due("drop()", engine.drop(), sets.isEmpty() ? BAD : sets.size() - 1);
             if (!sets.isEmpty()) {
                 sets.remove(sets.size() - 1);
             }

@@ -1,4 +1,7 @@
-/** Each promise of the document by itself: ordinary inputs, the edges that are named, wrong inputs. */
+/**
+ * Each promise of the document by itself: ordinary inputs, the edges that are named, wrong inputs.
+ * Nothing is promised after an object's 512th call, so long lists of cases take new objects.
+ */
 public final class PromisesTest {
     private static final int BAD = -1;
     private static final int FULL = -2;
@@ -21,6 +24,7 @@ public final class PromisesTest {
         kindsOfTwoSets();
         kindLast();
         bigSets();
+        notBigSets();
         count();
         total();
         keyOf();
@@ -107,32 +111,29 @@ public final class PromisesTest {
             due("derive(" + kind + ", 0, 1, 0)", x.derive(kind, 0, 1, 0), BAD);
         }
         for (int kind = 1; kind <= 11; kind++) {
-            // 1 is no data set yet, but fits as any other operand a; for two data sets a must be 0.
             int a = takesTwoSets(kind) ? 0 : 1;
             for (int d : new int[] {-1, 1, 16, MIN, MAX}) {
                 due("derive(" + kind + ", " + d + ", " + a + ", 0)", x.derive(kind, d, a, 0), BAD);
             }
-            for (int none : new int[] {-1, 9, 16, MIN, MAX}) {
-                boolean fits = kind == 1 || kind == 2 || kind == 3 || kind == 8 || kind == 11;
-                dueOfDerive(x, kind, none, fits);
-            }
         }
-        for (int a = -1; a <= 9; a++) {
-            dueOfDerive(x, 4, a, a >= 0 && a <= 3);
-            dueOfDerive(x, 5, a, a == 0);
-            dueOfDerive(x, 6, a, a >= 0 && a <= 3);
-            dueOfDerive(x, 7, a, a == 0);
-            dueOfDerive(x, 9, a, a == 0);
-            dueOfDerive(x, 10, a, a >= 1 && a <= 8);
+        for (int a : new int[] {MIN, -1, 0, 1, 2, 3, 4, 7, 8, 9, 15, 16, MAX}) {
+            for (int kind = 1; kind <= 11; kind++) {
+                operandFits(kind, a);
+            }
         }
     }
 
-    private static void dueOfDerive(LineageEngine x, int kind, int a, boolean fits) {
+    private static void operandFits(int kind, int a) {
+        boolean fits = switch (kind) {
+            case 4, 6 -> a >= 0 && a <= 3;
+            case 5, 7, 9 -> a == 0;
+            case 10 -> a >= 1 && a <= 8;
+            default -> true;
+        };
         for (int b : new int[] {0, MIN, MAX}) {
+            LineageEngine x = madeOf(1, 1);
             due("derive(" + kind + ", 0, " + a + ", " + b + ")", x.derive(kind, 0, a, b), fits ? 1 : BAD);
-            if (fits) {
-                due("drop()", x.drop(), 1);
-            }
+            due("drop() after it", x.drop(), fits ? 1 : 0);
         }
     }
 
@@ -142,115 +143,129 @@ public final class PromisesTest {
 
     private static void kindsOfOneSet() {
         promise = "3 derive, kinds 1 to 4, 8 and 11";
-        LineageEngine x = madeOf(0, 5, 3, -7, 3, 2, 3, 2, 15, MAX);
-        made(x, 1, 0, -2, 1, 0, -9, 3, -3, 3, -3, 3, 15, 15, 3);
-        made(x, 1, 0, 0, 7, 0, 7, 3, 7, 3, 7, 3, 7, 15, 7);
-        made(x, 1, 0, 1, 1, 0, 6, 3, -6, 3, 3, 3, 3, 15, MIN);
-        made(x, 2, 0, 2, 0, 0, 5, 3, 2, 3, 2, 15, MAX);
-        made(x, 2, 0, 3, 0, 0, 5, 15, MAX);
-        made(x, 2, 0, MIN, 0, 0, 5, 3, -7, 3, 2, 3, 2, 15, MAX);
-        made(x, 2, 0, MAX, 0, 15, MAX);
-        made(x, 3, 0, 1, 1, 0, MAX, 1, 5, 4, -7, 4, 2, 4, 2);
-        made(x, 3, 0, -1, 0, 0, 5, 1, MAX, 13, -7, 13, 2, 13, 2);
-        made(x, 3, 0, 0, -1, 15, -7, 15, 2, 15, 2, 15, 5, 15, MAX);
-        made(x, 3, 0, MAX, MIN, 0, 5, 1, MAX, 13, -7, 13, 2, 13, 2);
-        made(x, 4, 0, 0, 0);
-        made(x, 4, 0, 1, 0, 0, 5, 3, -7, 3, 2, 3, 2, 15, MAX);
-        made(x, 4, 0, 2, 0, 0, 5, 0, 5, 3, -7, 3, -7, 3, 2, 3, 2, 3, 2, 3, 2, 15, MAX, 15, MAX);
-        made(x, 8, 0, 0, 0, 0, 5, 3, -7, 3, 2, 15, MAX);
-        made(x, 11, 0, 0, 0, 2, 3, 2, 3, 5, 0, 9, 3, 15, 15);
+        int[][] sets = {{0, 5, 3, -7, 3, 2, 3, 2, 15, MAX}};
+        made(sets, 1, 0, -2, 1, 0, -9, 3, -3, 3, -3, 3, 15, 15, 3);
+        made(sets, 1, 0, 0, 7, 0, 7, 3, 7, 3, 7, 3, 7, 15, 7);
+        made(sets, 1, 0, 1, 1, 0, 6, 3, -6, 3, 3, 3, 3, 15, MIN);
+        made(sets, 2, 0, 2, 0, 0, 5, 3, 2, 3, 2, 15, MAX);
+        made(sets, 2, 0, 3, 0, 0, 5, 15, MAX);
+        made(sets, 2, 0, MIN, 0, 0, 5, 3, -7, 3, 2, 3, 2, 15, MAX);
+        made(sets, 2, 0, MAX, 0, 15, MAX);
+        made(sets, 3, 0, 1, 1, 0, MAX, 1, 5, 4, -7, 4, 2, 4, 2);
+        made(sets, 3, 0, -1, 0, 0, 5, 1, MAX, 13, -7, 13, 2, 13, 2);
+        made(sets, 3, 0, 0, -1, 15, -7, 15, 2, 15, 2, 15, 5, 15, MAX);
+        made(sets, 3, 0, MAX, MIN, 0, 5, 1, MAX, 13, -7, 13, 2, 13, 2);
+        made(sets, 4, 0, 0, 0);
+        made(sets, 4, 0, 1, 0, 0, 5, 3, -7, 3, 2, 3, 2, 15, MAX);
+        made(sets, 4, 0, 2, 0, 0, 5, 0, 5, 3, -7, 3, -7, 3, 2, 3, 2, 3, 2, 3, 2, 15, MAX, 15, MAX);
+        made(sets, 8, 0, 0, 0, 0, 5, 3, -7, 3, 2, 15, MAX);
+        made(sets, 11, 0, 0, 0, 2, 3, 2, 3, 5, 0, 9, 3, 15, 15);
 
-        LineageEngine three = madeOf(6, 1);
-        made(three, 4, 0, 3, 0, 6, 1, 6, 1, 6, 1);
-        LineageEngine alike = madeOf(1, 4, 1, 4, 2, 4, 1, 5, 2, 5, 1, 4);
-        made(alike, 8, 0, 0, 0, 1, 4, 1, 5, 2, 4, 2, 5);
-        LineageEngine negative = madeOf(4, -1, 5, -16, 6, MIN);
-        made(negative, 11, 0, 0, 0, 0, 5, 0, 6, 15, 4);
-        LineageEngine none = madeOf();
+        made(new int[][] {{6, 1}}, 4, 0, 3, 0, 6, 1, 6, 1, 6, 1);
+        made(new int[][] {{1, 4, 1, 4, 2, 4, 1, 5, 2, 5, 1, 4}}, 8, 0, 0, 0, 1, 4, 1, 5, 2, 4, 2, 5);
+        made(new int[][] {{1, 4, 2, 4}}, 8, 0, 0, 0, 1, 4, 2, 4);
+        made(new int[][] {{4, -1, 5, -16, 6, MIN}}, 11, 0, 0, 0, 0, 5, 0, 6, 15, 4);
         for (int kind = 1; kind <= 11; kind++) {
-            made(none, kind, 0, takesTwoSets(kind) ? 0 : 1, 3);
+            made(new int[][] {{}}, kind, 0, takesTwoSets(kind) ? 0 : 1, 3);
         }
     }
 
     private static void kindFold() {
         promise = "3 derive, kind 6";
-        LineageEngine x = madeOf(0, 5, 3, -7, 3, 2, 3, 2, 14, MAX, 14, 1, 15, MIN);
-        made(x, 6, 0, 0, 0, 0, 5, 3, -3, 14, MIN, 15, MIN);
-        made(x, 6, 0, 1, 0, 0, 5, 3, -7, 14, 1, 15, MIN);
-        made(x, 6, 0, 2, 0, 0, 5, 3, 2, 14, MAX, 15, MIN);
-        made(x, 6, 0, 3, 0, 0, 1, 3, 3, 14, 2, 15, 1);
+        int[][] sets = {{0, 5, 3, -7, 3, 2, 3, 2, 14, MAX, 14, 1, 15, MIN}};
+        made(sets, 6, 0, 0, 0, 0, 5, 3, -3, 14, MIN, 15, MIN);
+        made(sets, 6, 0, 1, 0, 0, 5, 3, -7, 14, 1, 15, MIN);
+        made(sets, 6, 0, 2, 0, 0, 5, 3, 2, 14, MAX, 15, MIN);
+        made(sets, 6, 0, 3, 0, 0, 1, 3, 3, 14, 2, 15, 1);
     }
 
     private static void kindsOfTwoSets() {
         promise = "3 derive, kinds 5, 7 and 9";
-        LineageEngine x = madeOf(1, 10, 1, 20, 2, 5, 2, 5, 7, MAX);
-        hand(x, 1, 1, 2, 5, 2, -5, 7, 1, 9, 9);
-        due("derive(0, ..)", x.derive(0, 0, 0, 0), 1);
-        hand(x, 2, 0, 3, 0);
-        due("derive(0, ..)", x.derive(0, 0, 0, 0), 2);
-        made(x, 5, 0, 1, 0, 1, 1, 1, 10, 1, 20, 2, -5, 2, 5, 2, 5, 2, 5, 7, 1, 7, MAX, 9, 9);
-        made(x, 5, 2, 2, 0, 2, 0, 2, 0, 3, 0, 3, 0);
-        made(x, 7, 0, 1, 0, 1, 11, 1, 21, 2, 0, 2, 0, 2, 10, 2, 10, 7, MIN);
-        made(x, 7, 1, 0, 0, 1, 11, 1, 21, 2, 0, 2, 0, 2, 10, 2, 10, 7, MIN);
-        made(x, 7, 0, 2, 0, 2, 5, 2, 5);
-        made(x, 9, 0, 1, 0);
-        made(x, 9, 1, 0, 0, 9, 9);
-        made(x, 9, 0, 2, 0, 1, 10, 1, 20, 7, MAX);
-        made(x, 9, 2, 0, 0, 3, 0);
-        made(x, 9, 0, 0, 0);
+        int[][] sets = {{1, 10, 1, 20, 2, 5, 2, 5, 7, MAX}, {1, 1, 2, 5, 2, -5, 7, 1, 9, 9}, {2, 0, 3, 0}};
+        made(sets, 5, 0, 1, 0, 1, 1, 1, 10, 1, 20, 2, -5, 2, 5, 2, 5, 2, 5, 7, 1, 7, MAX, 9, 9);
+        made(sets, 5, 2, 2, 0, 2, 0, 2, 0, 3, 0, 3, 0);
+        made(sets, 7, 0, 1, 0, 1, 11, 1, 21, 2, 0, 2, 0, 2, 10, 2, 10, 7, MIN);
+        made(sets, 7, 1, 0, 0, 1, 11, 1, 21, 2, 0, 2, 0, 2, 10, 2, 10, 7, MIN);
+        made(sets, 7, 0, 2, 0, 2, 5, 2, 5);
+        made(sets, 7, 2, 2, 0, 2, 0, 3, 0);
+        made(sets, 9, 0, 1, 0);
+        made(sets, 9, 1, 0, 0, 9, 9);
+        made(sets, 9, 0, 2, 0, 1, 10, 1, 20, 7, MAX);
+        made(sets, 9, 2, 0, 0, 3, 0);
+        made(sets, 9, 0, 0, 0);
     }
 
     private static void kindLast() {
         promise = "3 derive, kind 10";
-        LineageEngine x = madeOf(0, 8, 1, 3, 2, 8, 3, -1, 4, 3, 4, 3, 5, MIN, 6, 8, 7, 2, 9, MAX);
-        made(x, 10, 0, 1, 0, 9, MAX);
-        made(x, 10, 0, 2, 0, 6, 8, 9, MAX);
-        made(x, 10, 0, 3, 0, 2, 8, 6, 8, 9, MAX);
-        made(x, 10, 0, 5, 0, 0, 8, 2, 8, 4, 3, 6, 8, 9, MAX);
-        made(x, 10, 0, 8, 0, 0, 8, 1, 3, 2, 8, 4, 3, 4, 3, 6, 8, 7, 2, 9, MAX);
-        LineageEngine few = madeOf(1, 2, 3, 4);
-        made(few, 10, 0, 2, 0, 1, 2, 3, 4);
-        made(few, 10, 0, 8, 0, 1, 2, 3, 4);
+        int[][] sets = {{0, 8, 1, 3, 2, 8, 3, -1, 4, 3, 4, 3, 5, MIN, 6, 8, 7, 2, 9, MAX}};
+        made(sets, 10, 0, 1, 0, 9, MAX);
+        made(sets, 10, 0, 2, 0, 6, 8, 9, MAX);
+        made(sets, 10, 0, 3, 0, 2, 8, 6, 8, 9, MAX);
+        made(sets, 10, 0, 5, 0, 0, 8, 2, 8, 4, 3, 6, 8, 9, MAX);
+        made(sets, 10, 0, 8, 0, 0, 8, 1, 3, 2, 8, 4, 3, 4, 3, 6, 8, 7, 2, 9, MAX);
+        made(new int[][] {{1, 2, 3, 4}}, 10, 0, 2, 0, 1, 2, 3, 4);
+        made(new int[][] {{1, 2, 3, 4}}, 10, 0, 8, 0, 1, 2, 3, 4);
     }
 
     private static void bigSets() {
         promise = "Terms, BIG";
-        LineageEngine x = madeOf(new int[48]);
+        LineageEngine x = withBigSet();
+        due("count(1): 48 are not too many", x.count(1), 48);
+        due("total(1)", x.total(1), 48 * 7);
+        due("valueOf(1, 47)", x.valueOf(1, 47), 7);
+        bigIs(x, 3);
+        for (int kind = 1; kind <= 11; kind++) {
+            bigIsMade(kind, 3, takesTwoSets(kind) ? 2 : 1);
+        }
+        bigIsMade(5, 2, 3);
+        bigIsMade(7, 2, 3);
+        bigIsMade(9, 2, 3);
+        // Of a big one it is big even if it has no pairs.
+        bigIsMade(4, 3, 0);
+        // 576 pairs of two that are not big.
+        bigIsMade(7, 0, 0);
+        bigIsMade(4, 1, 2);
+        bigIsMade(5, 1, 1);
+    }
+
+    private static void notBigSets() {
+        promise = "Terms, not BIG";
+        LineageEngine x = withBigSet();
+        due("derive(6, 2, 3, 0): a is no data set here", x.derive(6, 2, 3, 0), 4);
+        pairsAre(x, 4, 5, 1);
+        due("derive(0, 3, 3, 3): x is no data set here", x.derive(0, 3, 3, 3), 5);
+        pairsAre(x, 5);
+        due("derive(7, 1, 2, 0): of 48 pairs", x.derive(7, 1, 2, 0), 6);
+        pairsAre(x, 6);
+        for (int left = 6; left >= 3; left--) {
+            due("drop()", x.drop(), left);
+        }
+        due("derive(8, 1, ..) where the big one was", x.derive(8, 1, 0, 0), 3);
+        pairsAre(x, 3, 1, 7);
+    }
+
+    /** Data set 0 has 24 pairs, 1 has 48, 2 has one, and 3 is big: it has 49. */
+    private static LineageEngine withBigSet() {
+        int[] full = new int[48];
+        for (int i = 0; i < full.length; i += 2) {
+            full[i] = 1;
+            full[i + 1] = 7;
+        }
+        LineageEngine x = madeOf(full);
         due("count(0)", x.count(0), 24);
         due("derive(4, 0, 2, 0)", x.derive(4, 0, 2, 0), 1);
-        due("count(1): 48 are not too many", x.count(1), 48);
         hand(x, 5, 6);
         due("derive(0, ..)", x.derive(0, 0, 0, 0), 2);
         due("derive(5, 1, 2, 0)", x.derive(5, 1, 2, 0), 3);
-        bigIs(x, 3);
-        for (int kind = 1; kind <= 11; kind++) {
-            due("derive of the big set", x.derive(kind, 3, takesTwoSets(kind) ? 0 : 1, 0), 4);
-            bigIs(x, 4);
-            due("derive of what is made of it", x.derive(10, 4, 1, 0), 5);
-            bigIs(x, 5);
-            due("drop()", x.drop(), 5);
-            due("drop()", x.drop(), 4);
-        }
-        for (int kind : new int[] {5, 7, 9}) {
-            due("derive with the big set as a", x.derive(kind, 2, 3, 0), 4);
-            bigIs(x, 4);
-            due("drop()", x.drop(), 4);
-        }
-        due("derive(4, 3, 0, 0): no pairs, but of a big one", x.derive(4, 3, 0, 0), 4);
+        return x;
+    }
+
+    private static void bigIsMade(int kind, int from, int a) {
+        LineageEngine x = withBigSet();
+        due("derive(" + kind + ", " + from + ", " + a + ", 0)", x.derive(kind, from, a, 0), 4);
         bigIs(x, 4);
-        due("drop()", x.drop(), 4);
-        due("derive(7, 0, 0, 0): 576 pairs", x.derive(7, 0, 0, 0), 4);
-        bigIs(x, 4);
-        due("drop()", x.drop(), 4);
-        due("derive(6, 2, 3, 0): a is no data set here", x.derive(6, 2, 3, 0), 4);
-        pairsAre(x, 4, 5, 1);
-        due("drop()", x.drop(), 4);
-        due("derive(0, 3, 3, 3): x is no data set here", x.derive(0, 3, 3, 3), 4);
-        pairsAre(x, 4);
-        due("drop()", x.drop(), 4);
-        due("drop()", x.drop(), 3);
-        due("derive(8, 1, ..) where the big one was", x.derive(8, 1, 0, 0), 3);
-        pairsAre(x, 3, 0, 0);
+        due("derive(10, 4, 1, 0)", x.derive(10, 4, 1, 0), 5);
+        bigIs(x, 5);
     }
 
     private static void count() {
@@ -394,7 +409,8 @@ public final class PromisesTest {
         for (int k = 0; k <= 2; k++) {
             due("level(" + k + ")", x.level(k), true);
             pairsAre(x, 0, 1, 1, 2, 2);
-            made(x, 7, 0, 0, 0, 1, 2, 2, 4);
+            due("derive(7, 0, 0, 0)", x.derive(7, 0, 0, 0), k + 1);
+            pairsAre(x, k + 1, 1, 2, 2, 4);
         }
     }
 
@@ -423,27 +439,34 @@ public final class PromisesTest {
 
     /** A new object whose data set 0 has these pairs: key, value, key, value and so on. */
     private static LineageEngine madeOf(int... pairs) {
+        return madeOfAll(new int[][] {pairs});
+    }
+
+    private static LineageEngine madeOfAll(int[][] sets) {
         LineageEngine x = new LineageEngine();
-        hand(x, pairs);
-        due("derive(0, ..)", x.derive(0, 0, 0, 0), 0);
+        for (int d = 0; d < sets.length; d++) {
+            hand(x, sets[d]);
+            due("derive(0, ..)", x.derive(0, 0, 0, 0), d);
+        }
         return x;
     }
 
     private static void hand(LineageEngine x, int... pairs) {
-        int before = x.discard();
-        due("pairs in hand before", before, 0);
         for (int i = 0; i < pairs.length; i += 2) {
             due("row(" + pairs[i] + ", " + pairs[i + 1] + ")", x.row(pairs[i], pairs[i + 1]), i / 2 + 1);
         }
     }
 
-    /** Derives a data set, looks whether it has these pairs in this order, and drops it again. */
-    private static void made(LineageEngine x, int kind, int from, int a, int b, int... pairs) {
-        int d = x.derive(kind, from, a, b);
+    /** Derives a data set from these and looks whether it has these pairs in this order. */
+    private static void made(int[][] sets, int kind, int from, int a, int b, int... pairs) {
+        LineageEngine x = madeOfAll(sets);
         String before = promise;
         promise = before + ", derive(" + kind + ", " + from + ", " + a + ", " + b + ")";
-        pairsAre(x, d, pairs);
-        due("drop()", x.drop(), d);
+        due("its number", x.derive(kind, from, a, b), sets.length);
+        pairsAre(x, sets.length, pairs);
+        for (int d = 0; d < sets.length; d++) {
+            due("count(" + d + ") afterwards", x.count(d), sets[d].length / 2);
+        }
         promise = before;
     }
 
