@@ -1,3 +1,5 @@
+import java.util.List;
+
 /** The kinds of data sets, line by line of the document's table: ordinary pairs, and the bounds that a line names. */
 public final class KindsTest {
     private static final int BAD = Run.BAD;
@@ -102,6 +104,7 @@ public final class KindsTest {
             for (int how = 0; how <= 3; how++) {
                 made(NONE, 6, how, 0);
                 made(Run.pairs(9, -4), 6, how, 0, 9, how == 3 ? 1 : -4);
+                made(Run.pairs(0, -4), 6, how, 0, 0, how == 3 ? 1 : -4);
                 made(allKeys(), 6, how, 0, how == 3 ? sameForAllKeys(1) : allKeys());
             }
             made(Run.same(24, 7, -2), 6, 0, 0, 7, -48);
@@ -144,7 +147,9 @@ public final class KindsTest {
         made(Run.pairs(1, 4, 1, 4, 2, 4, 1, 5, 2, 5, 1, 4), 8, 0, 0, 1, 4, 1, 5, 2, 4, 2, 5);
         made(Run.same(24, 0, 0), 8, 0, 0, 0, 0);
         made(Run.pairs(1, 4, 2, 4), 8, 0, 0, 1, 4, 2, 4);
+        made(Run.pairs(1, 4, 2, 4, 2, 5), 8, 0, 0, 1, 4, 2, 4, 2, 5);
         made(Run.pairs(1, 4, 1, 5), 8, 0, 0, 1, 4, 1, 5);
+        made(Run.pairs(1, 4, 1, 4, 2, 5), 8, 0, 0, 1, 4, 2, 5);
         made(NONE, 8, 0, 0);
     }
 
@@ -219,24 +224,37 @@ public final class KindsTest {
     }
 
     private static void made(int[] of, int kind, int a, int b, int... due) {
-        Run run = Run.of(of);
-        run.derive(kind, 0, a, b).is(1);
-        run.pairsAre(1, due);
-        run.count(0).is(of.length / 2);
+        for (Run run : List.of(new Run(), used())) {
+            run.set(of);
+            run.derive(kind, 0, a, b).is(1);
+            run.pairsAre(1, due);
+            run.count(0).is(of.length / 2);
+        }
     }
 
     private static void madeOfTwo(int[] of, int[] other, int kind, int... due) {
-        Run run = Run.of(of, other);
-        run.derive(kind, 0, 1, 0).is(2);
-        run.pairsAre(2, due);
-        run.count(0).is(of.length / 2);
-        run.count(1).is(other.length / 2);
+        for (Run run : List.of(new Run(), used())) {
+            run.set(of).set(other);
+            run.derive(kind, 0, 1, 0).is(2);
+            run.pairsAre(2, due);
+            run.count(0).is(of.length / 2);
+            run.count(1).is(other.length / 2);
+        }
     }
 
     private static void madeWithItself(int[] of, int kind, int... due) {
-        Run run = Run.of(of);
-        run.derive(kind, 0, 0, 0).is(1);
-        run.pairsAre(1, due);
+        made(of, kind, 0, 0, due);
+    }
+
+    /** An object that is as a new one again; what it had, a big data set too, must not come back. */
+    private static Run used() {
+        Run run = Run.of(allKeys(), Run.same(24, 1, 7));
+        run.derive(7, 1, 1, 0).is(2);
+        for (int left = 2; left >= 0; left--) {
+            run.drop().is(left);
+        }
+        run.hand(Run.same(24, 1, 7)).discard().is(24);
+        return run;
     }
 
     private static void refused(int[] of, int kind, int a) {

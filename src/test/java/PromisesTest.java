@@ -546,21 +546,23 @@ public final class PromisesTest {
     }
 
     private static void levelShowsNotIn(int kind) {
-        Run plain = Run.of(Run.pairs(1, 2, 1, 7, 4, -3)).hand(5, 5);
+        Run plain = Run.of(Run.pairs(1, 2, 1, 7, 1, 7, 4, -3)).hand(5, 5);
         plain.derive(kind, 0, Run.takesTwoSets(kind) ? 0 : 2, 1).is(1);
-        int sum = plain.total(1).number();
         int size = plain.count(1).number();
         for (int made = 0; made <= 2; made++) {
-            Run run = Run.of(Run.pairs(1, 2, 1, 7, 4, -3)).hand(5, 5);
+            Run run = Run.of(Run.pairs(1, 2, 1, 7, 1, 7, 4, -3)).hand(5, 5);
             run.level(made).is(true);
             run.derive(kind, 0, Run.takesTwoSets(kind) ? 0 : 2, 1).is(1);
             for (int asked = 0; asked <= 2; asked++) {
                 run.level(asked).is(true);
                 run.count(1).is(size);
-                run.total(1).is(sum);
-                run.keyOf(1, size - 1).is(plain.keyOf(1, size - 1).number());
-                run.valueOf(1, size - 1).is(plain.valueOf(1, size - 1).number());
-                run.pairsAre(0, 1, 2, 1, 7, 4, -3);
+                run.total(1).is(plain.total(1).number());
+                run.lookup(1, 1).is(plain.lookup(1, 1).number());
+                for (int k = 0; k <= size; k++) {
+                    run.keyOf(1, k).is(plain.keyOf(1, k).number());
+                    run.valueOf(1, k).is(plain.valueOf(1, k).number());
+                }
+                run.pairsAre(0, 1, 2, 1, 7, 1, 7, 4, -3);
             }
             run.discard().is(1);
         }

@@ -12,6 +12,7 @@ public final class TermsTest {
         Sentences.holds("An object is used for at most 512 calls after it has been made", () -> {
             handHoldsForAllCalls();
             setsHoldForAllCalls();
+            questionsHoldForAllCalls();
         });
         Sentences.holds("what later calls answer is free (but none may throw)", TermsTest::laterCallsEnd);
         pairs();
@@ -51,6 +52,24 @@ public final class TermsTest {
             run.count(0).is(1);
         }
         run.valueOf(0, 0).is(7);
+    }
+
+    private static void questionsHoldForAllCalls() {
+        for (int question = 0; question < 8; question++) {
+            Run run = Run.of(Run.pairs(3, 7));
+            while (run.calls() < 512) {
+                switch (question) {
+                    case 0 -> run.count(0).is(1);
+                    case 1 -> run.total(0).is(7);
+                    case 2 -> run.keyOf(0, 0).is(3);
+                    case 3 -> run.valueOf(0, 0).is(7);
+                    case 4 -> run.lookup(0, 3).is(7);
+                    case 5 -> run.keep(0, true).is(true);
+                    case 6 -> run.lose(3).is(true);
+                    default -> run.level(1).is(true);
+                }
+            }
+        }
     }
 
     private static void laterCallsEnd() {
@@ -223,6 +242,8 @@ public final class TermsTest {
         Sentences.holds("A data set is BIG iff it .. is made of a big one: though it has few pairs or none", () -> {
             madeOfBig(2, 3, MAX, 0);
             madeOfBig(4, 3, 0, 0);
+            madeOfBig(5, 3, 4, 0);
+            madeOfBig(5, 4, 3, 0);
             madeOfBig(6, 3, 3, 0);
             madeOfBig(7, 3, 4, 0);
             madeOfBig(7, 4, 3, 0);
@@ -348,9 +369,9 @@ public final class TermsTest {
     }
 
     private static void keepingShowsNotIn(int kind) {
-        Run plain = Run.of(Run.pairs(1, 2, 1, 7, 4, -3));
+        Run plain = Run.of(Run.pairs(1, 2, 1, 7, 1, 7, 4, -3));
         plain.derive(kind, 0, Run.takesTwoSets(kind) ? 0 : 2, 1).is(1);
-        Run kept = Run.of(Run.pairs(1, 2, 1, 7, 4, -3));
+        Run kept = Run.of(Run.pairs(1, 2, 1, 7, 1, 7, 4, -3));
         kept.keep(0, true).is(true);
         kept.derive(kind, 0, Run.takesTwoSets(kind) ? 0 : 2, 1).is(1);
         kept.keep(1, true).is(true);
@@ -374,7 +395,7 @@ public final class TermsTest {
             kept.keyOf(1, k).is(plain.keyOf(1, k).number());
             kept.valueOf(1, k).is(plain.valueOf(1, k).number());
         }
-        kept.count(0).is(3);
+        kept.count(0).is(4);
     }
 
     private static void keepingEndsWithTheSet() {
